@@ -14,7 +14,6 @@ public final class DifferenceFamilies {
 
     private static final int MOST_ORDER = 40;
     private static final int BLOCKS = 6;
-    private static final int SLOTS = 2;
     private static final int MOST_FACTOR = 1000;
     private static final int MOST_INDEX = 20;
     private static final long ONLY_ZERO = 1L;
@@ -29,7 +28,8 @@ public final class DifferenceFamilies {
     private final Elimination elimination;
     private final Finder finder;
     private final Text text;
-    private final Slot[] slots;
+    private final Slot firstSlot;
+    private final Slot secondSlot;
     private long hole;
 
     public DifferenceFamilies() {
@@ -46,10 +46,8 @@ public final class DifferenceFamilies {
         elimination = new Elimination(madeGroup);
         finder = new Finder(madeGroup);
         text = new Text(madeGroup);
-        slots = new Slot[SLOTS];
-        for (int slot = 0; slot < SLOTS; slot++) {
-            slots[slot] = new Slot();
-        }
+        firstSlot = new Slot();
+        secondSlot = new Slot();
         hole = ONLY_ZERO;
     }
 
@@ -65,9 +63,8 @@ public final class DifferenceFamilies {
         Arrays.fill(blocks, 0L);
         history.forget();
         finder.forget();
-        for (int slot = 0; slot < SLOTS; slot++) {
-            slots[slot].filled = false;
-        }
+        firstSlot.filled = false;
+        secondSlot.filled = false;
         return previous;
     }
 
@@ -301,10 +298,10 @@ public final class DifferenceFamilies {
         if (!isSlot(slot)) {
             return BAD_VALUE;
         }
-        if (!slots[slot].filled) {
+        if (!slotAt(slot).filled) {
             return NOT_POSSIBLE;
         }
-        return likeness.areAlike(blocks, slots[slot].blocks) ? 1 : 0;
+        return likeness.areAlike(blocks, slotAt(slot).kept) ? 1 : 0;
     }
 
     // ---- the design
@@ -436,9 +433,7 @@ public final class DifferenceFamilies {
         if (!isSlot(slot)) {
             return BAD_VALUE;
         }
-        System.arraycopy(blocks, 0, slots[slot].blocks, 0, BLOCKS);
-        slots[slot].hole = hole;
-        slots[slot].filled = true;
+        slotAt(slot).fill(blocks, hole);
         return filledBlocks();
     }
 
@@ -446,11 +441,11 @@ public final class DifferenceFamilies {
         if (!isSlot(slot)) {
             return BAD_VALUE;
         }
-        if (!slots[slot].filled) {
+        if (!slotAt(slot).filled) {
             return NOT_POSSIBLE;
         }
-        System.arraycopy(slots[slot].blocks, 0, blocks, 0, BLOCKS);
-        hole = slots[slot].hole;
+        System.arraycopy(slotAt(slot).kept, 0, blocks, 0, BLOCKS);
+        hole = slotAt(slot).keptHole;
         history.forget();
         return filledBlocks();
     }
@@ -490,7 +485,11 @@ public final class DifferenceFamilies {
     }
 
     private static boolean isSlot(int slot) {
-        return slot >= 0 && slot < SLOTS;
+        return slot == 0 || slot == 1;
+    }
+
+    private Slot slotAt(int slot) {
+        return slot == 0 ? firstSlot : secondSlot;
     }
 
     private static boolean isWithin(int value, int low, int high) {
@@ -745,9 +744,15 @@ public final class DifferenceFamilies {
 
     /** What a slot keeps. */
     private static final class Slot {
-        private final long[] blocks = new long[BLOCKS];
-        private long hole;
+        private final long[] kept = new long[BLOCKS];
+        private long keptHole;
         private boolean filled;
+
+        void fill(long[] blocks, long hole) {
+            System.arraycopy(blocks, 0, kept, 0, BLOCKS);
+            keptHole = hole;
+            filled = true;
+        }
     }
 
     /** The counts of the differences. */
@@ -1165,9 +1170,9 @@ public final class DifferenceFamilies {
         private final long[] found = new long[MOST_CANDIDATES];
         private final int[] map = new int[MOST_ORDER];
         private final int[] limits = new int[MOST_ORDER];
-        // The counts of the list of the first k candidates begin at k * MOST_ORDER.
+        // The counts of the list of the first k candidates begin at k * MOST_ORDER; those of the empty list stay 0.
         private final int[] counts = new int[(MOST_BLOCKS + 1) * MOST_ORDER];
-        private final int[] nextTry = new int[MOST_BLOCKS + 1];
+        private final int[] nextTry = new int[MOST_BLOCKS];
         private final long[] chosen = new long[MOST_BLOCKS];
         private final long[] firstSolution = new long[BLOCKS];
         private int candidateCount;
@@ -1227,7 +1232,6 @@ public final class DifferenceFamilies {
         void run(int blocks, int mostSteps) {
             stepsMade = 0;
             solutions = 0;
-            Arrays.fill(counts, 0);
             Arrays.fill(firstSolution, 0L);
             nextTry[0] = 0;
             int length = 0;
