@@ -63,12 +63,15 @@ final class Boundaries {
     void refused(Start start, String call, long answer, Call made) {
         DifferenceFamilies x = start.make();
         due(call, made.on(x), answer);
-        compare(call, States.lastAnswers(x), States.lastAnswers(start.make()));
+        alike(call, x, start.make());
     }
 
-    private void compare(String call, List<String> got, List<String> want) {
+    /** Behind some calls, an object answers as another one does without them. */
+    void alike(String calls, DifferenceFamilies x, DifferenceFamilies without) {
+        List<String> got = States.lastAnswers(x);
+        List<String> want = States.lastAnswers(without);
         for (int i = 0; i < want.size(); i++) {
-            holds("behind " + call + ", as without it, " + want.get(i) + ", but not " + got.get(i),
+            holds("behind " + calls + ", as without it, " + want.get(i) + ", but not " + got.get(i),
                     got.get(i).equals(want.get(i)));
         }
     }

@@ -82,7 +82,7 @@ final class ChangeBoundaries {
         b.refused(() -> States.family(2, 1, 0, 1), "exchange(0, 0, 1)", NOT_POSSIBLE, x -> x.exchange(0, 0, 1));
     }
 
-    /** In the hole of 0 and 3 lies the difference of the block 0 and 3: each exchange of it is better, for each index. */
+    /** The difference of the block 0 and 3 lies in the hole: each exchange is better, for each index. */
     private static DifferenceFamilies improvable() {
         DifferenceFamilies x = States.family(6, 1, 0, 3);
         x.setHole(3, 0);
@@ -96,7 +96,7 @@ final class ChangeBoundaries {
         b.test(17, "of several the one with the lowest block, then the lowest x, then the lowest y", this::lowestOnes);
         b.test(17, "but only if the deficiency becomes smaller by it", this::onlyIfSmaller);
         b.test(17, "index: the index for which the deficiency counts, 1 to 20",
-                () -> b.range(ChangeBoundaries::improvable, "improve(?)", 1, 2, 20, 78, (x, index) -> x.improve(index)));
+                () -> b.range(ChangeBoundaries::improvable, "improve(?)", 1, 2, 20, 78, (x, i) -> x.improve(i)));
         b.test(17, "Returns the deficiency then", this::deficiencyThen);
         b.test(17, "BAD_VALUE", this::badImprovements);
         b.test(17, "NONE if no exchange makes it smaller", this::noImprovement);
@@ -308,7 +308,8 @@ final class ChangeBoundaries {
             }
             for (int left = 4; left >= 0; left--) {
                 b.due(changes + " changes; undo()", x.undo(), left);
-                b.blocks(changes + " changes; undo()", x, putFirst(changes - 5 + left, 0), putFirst(changes - 5 + left, 1));
+                int before = changes - 5 + left;
+                b.blocks(changes + " changes; undo()", x, putFirst(before, 0), putFirst(before, 1));
             }
             b.due(changes + " changes; undo() six times", x.undo(), NOT_POSSIBLE);
             // What the first changes put, whose states were dropped, stays.

@@ -216,15 +216,16 @@ final class DesignBoundaries {
         b.test(38, "p: 2, 3, 5 or 7", this::fourPrimes);
         b.test(38, "Returns the rank of the incidence matrix over the field of the integers modulo p",
                 this::leastAndGreatestRank);
+        b.test(38, "the field of the integers modulo p", this::ranksByElimination);
         b.test(38, "BAD_VALUE", this::badPrimes);
     }
 
     private void fourPrimes() {
-        int[] due = {BAD_VALUE, BAD_VALUE, 4, 6, BAD_VALUE, 7, BAD_VALUE, 7, BAD_VALUE, BAD_VALUE, BAD_VALUE, BAD_VALUE};
+        int[] due = {BAD_VALUE, BAD_VALUE, 4, 6, BAD_VALUE, 7, BAD_VALUE, 7, BAD_VALUE, BAD_VALUE, BAD_VALUE};
         for (int p = 0; p < due.length; p++) {
             b.due("{0, 1, 3}: rank(" + p + ")", States.family(7, 1, 0, 1, 3).rank(p), due[p]);
         }
-        for (int p : new int[] {-7, -2, -1, 13, 2 + 256, Integer.MIN_VALUE, Integer.MAX_VALUE}) {
+        for (int p : new int[] {-7, -2, -1, 11, 13, 2 + 256, Integer.MIN_VALUE, Integer.MAX_VALUE}) {
             b.due("{0, 1, 3}: rank(" + p + ")", States.family(7, 1, 0, 1, 3).rank(p), BAD_VALUE);
         }
     }
@@ -246,6 +247,64 @@ final class DesignBoundaries {
         }
         b.due("rank(2) of 240 blocks", States.full().rank(2), 39);
         b.due("rank(3) of 240 blocks", States.full().rank(3), 40);
+    }
+
+    /** All sets of 7, of 2 * 3 and of 8, and pairs of sets, against the rows of the design. */
+    private void ranksByElimination() {
+        int[][] groups = {{7, 1}, {2, 3}, {8, 1}};
+        for (int[] group : groups) {
+            int v = group[0] * group[1];
+            for (int set = 1; set < 1 << v; set++) {
+                DifferenceFamilies x = States.group(group[0], group[1]);
+                for (int e = 0; e < v; e++) {
+                    putIf(x, 0, e, set >> e & 1);
+                    putIf(x, 4, e, (set * 5 + 3) >> (e + 1) & 1);
+                }
+                for (int p : new int[] {2, 3, 5, 7}) {
+                    b.due(group[0] + " * " + group[1] + ", set " + set + ": rank(" + p + ")", x.rank(p), rank(x, v, p));
+                }
+            }
+        }
+    }
+
+    private static void putIf(DifferenceFamilies x, int block, int element, int bit) {
+        if (bit == 1) {
+            x.put(block, element);
+        }
+    }
+
+    private static int rank(DifferenceFamilies x, int columns, int p) {
+        int[][] rows = new int[x.designBlocks()][columns];
+        for (int i = 0; i < rows.length; i++) {
+            long set = x.designBlock(i);
+            for (int e = 0; e < columns; e++) {
+                rows[i][e] = (int) (set >> e & 1);
+            }
+        }
+        int rank = 0;
+        for (int column = 0; column < columns && rank < rows.length; column++) {
+            rank += clearColumn(rows, rank, column, p) ? 1 : 0;
+        }
+        return rank;
+    }
+
+    /** Takes multiples of one row from those behind it until they have 0 in a column; false if all have. */
+    private static boolean clearColumn(int[][] rows, int from, int column, int p) {
+        for (int i = from; i < rows.length; i++) {
+            if (rows[i][column] != 0) {
+                int[] pivot = rows[i];
+                rows[i] = rows[from];
+                rows[from] = pivot;
+            }
+        }
+        for (int i = from + 1; i < rows.length; i++) {
+            while (rows[from][column] != 0 && rows[i][column] != 0) {
+                for (int e = 0; e < rows[i].length; e++) {
+                    rows[i][e] = (rows[i][e] + rows[from][e]) % p;
+                }
+            }
+        }
+        return rows[from][column] != 0;
     }
 
     private void badPrimes() {

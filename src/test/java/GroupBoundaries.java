@@ -61,6 +61,7 @@ final class GroupBoundaries {
         b.test(2, "m: the order of the second cyclic group, at least 1",
                 () -> b.range(States::worked, "setGroup(2, ?)", 1, 8, 20, 8, (x, m) -> x.setGroup(2, m)));
         b.test(2, "Sets the group", this::groupIsSet);
+        b.test(2, "Sets the group", this::nothingIsLeftOfAnotherGroup);
         b.test(2, "The hole and the base blocks become as at first", this::holeAndBlocksAgain);
         b.test(2, "no search has been made then, and the slots are empty", this::noSearchAndNoSlots);
         b.test(2, "Returns the previous order of the group", this::previousOrders);
@@ -90,6 +91,25 @@ final class GroupBoundaries {
         x.setGroup(2, 1);
         b.due("setGroup(2, 1); orderOf(1)", x.orderOf(1), 2);
         b.due("orderOf(2)", x.orderOf(2), BAD_VALUE);
+    }
+
+    /** Work in a greater or a smaller group before leaves nothing but the text. */
+    private void nothingIsLeftOfAnotherGroup() {
+        for (Boundaries.Start start : States.all()) {
+            DifferenceFamilies x = start.make();
+            x.checksum();
+            x.improve(1);
+            x.rank(7);
+            x.clearText();
+            int order = x.order();
+            States.work(x);
+            b.alike("work in a group of order " + order, x, States.worked());
+        }
+        DifferenceFamilies y = States.group(5, 5);
+        y.search(3, 9, 4, 1, 5000);
+        y.checksum();
+        States.work(y);
+        b.alike("work in 5 * 5", y, States.worked());
     }
 
     private void holeAndBlocksAgain() {

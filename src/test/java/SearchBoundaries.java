@@ -37,6 +37,8 @@ final class SearchBoundaries {
         b.test(40, "no element of the hole other than 0 has a count above 0", this::holesInPartialSolutions);
         b.test(40, "A partial solution of c candidates is a solution if it is a difference family with index L",
                 this::solutions);
+        b.test(40, "it is a difference family with index L", this::searchesByTrying);
+        b.test(40, "it is a difference family with index L", this::orderTwo);
         b.test(41, "The search begins with the empty list", this::emptyList);
         b.test(41, "it tries to append each candidate that is not before its last one, in ascending order",
                 this::triesFromTheLastOne);
@@ -200,6 +202,126 @@ final class SearchBoundaries {
         b.due("8: search(3, 1, 1, 1, 99)", y.search(3, 1, 1, 1, 99), 0);
         y.setHole(4, 0);
         b.due("8, hole 0 4: search(3, 1, 1, 1, 99)", y.search(3, 1, 1, 1, 99), 2);
+    }
+
+    private void orderTwo() {
+        // The one candidate has the count 2.
+        for (int index = 1; index <= 9; index++) {
+            for (int count = 1; count <= 4; count++) {
+                b.due("2: search(2, " + index + ", " + count + ", 1, 9)",
+                        States.group(2, 1).search(2, index, count, 1, 9), index == 2 * count ? 1 : 0);
+            }
+        }
+    }
+
+    /** In small groups, with and without a hole, against a search written down from the document's words. */
+    private void searchesByTrying() {
+        int[][] groups = {{2, 2}, {5, 1}, {2, 3}, {3, 2}, {7, 1}, {2, 4}, {4, 2}, {3, 3}};
+        for (int[] group : groups) {
+            for (int hole : new int[] {0, 1, group[1], group[0] * group[1] / 2}) {
+                for (int size = 2; size <= 4; size++) {
+                    PlainSearch plain = new PlainSearch(group[0], group[1], hole, normalForms(group[0], group[1], size));
+                    for (int index = 1; index <= 4; index++) {
+                        searchByTrying(plain, size, index);
+                    }
+                }
+            }
+        }
+    }
+
+    private void searchByTrying(PlainSearch plain, int size, int index) {
+        for (int count = 1; count <= 4; count++) {
+            DifferenceFamilies x = States.group(plain.n, plain.m);
+            x.setHole(plain.hole, 0);
+            plain.start(x.hole(), index, count, 700);
+            String name = plain.n + " * " + plain.m + ", hole of " + plain.hole + ": search(" + size + ", " + index + ", "
+                    + count + ", 1, 700)";
+            searched(x, name, plain.solutions, plain.steps, plain.forms.size(), x.search(size, index, count, 1, 700));
+            if (plain.solutions > 0) {
+                x.takeSolution();
+                b.blocks(name + "; takeSolution()", x, plain.first);
+            }
+        }
+    }
+
+    /** The search, with counts made from all pairs of elements of all blocks of a list. */
+    private static final class PlainSearch {
+        private final int n;
+        private final int m;
+        private final int hole;
+        private final List<Long> forms;
+        private long holeSet;
+        private int index;
+        private int count;
+        private int most;
+        private int steps;
+        private int solutions;
+        private long[] first;
+
+        PlainSearch(int n, int m, int hole, List<Long> forms) {
+            this.n = n;
+            this.m = m;
+            this.hole = hole;
+            this.forms = forms;
+            java.util.Collections.sort(forms);
+        }
+
+        void start(long newHoleSet, int newIndex, int newCount, int newMost) {
+            holeSet = newHoleSet;
+            index = newIndex;
+            count = newCount;
+            most = newMost;
+            steps = 0;
+            solutions = 0;
+            goOn(new ArrayList<>(), 0);
+        }
+
+        private void goOn(List<Long> list, int from) {
+            for (int next = from; next < forms.size() && list.size() < count && steps < most; next++) {
+                steps++;
+                list.add(forms.get(next));
+                int[] counts = counts(list);
+                if (isPartial(counts)) {
+                    if (list.size() == count && isFamily(counts)) {
+                        first = solutions == 0 ? list.stream().mapToLong(set -> set).toArray() : first;
+                        solutions++;
+                    }
+                    goOn(list, next);
+                }
+                list.remove(list.size() - 1);
+            }
+        }
+
+        private int[] counts(List<Long> list) {
+            int[] counts = new int[n * m];
+            for (long set : list) {
+                for (int e = 0; e < n * m; e++) {
+                    for (int d = 1; d < n * m; d++) {
+                        long sum = translate(1L << e, d, n, m);
+                        counts[d] += (set >> e & 1) == 1 && (set & sum) != 0 ? 1 : 0;
+                    }
+                }
+            }
+            return counts;
+        }
+
+        private boolean isPartial(int[] counts) {
+            for (int d = 1; d < n * m; d++) {
+                if (counts[d] > ((holeSet >> d & 1) == 1 ? 0 : index)) {
+                    return false;
+                }
+            }
+            return true;
+        }
+
+        private boolean isFamily(int[] counts) {
+            for (int d = 1; d < n * m; d++) {
+                if (counts[d] != ((holeSet >> d & 1) == 1 ? 0 : index)) {
+                    return false;
+                }
+            }
+            return true;
+        }
     }
 
     private void emptyList() {

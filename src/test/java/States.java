@@ -32,7 +32,14 @@ final class States {
      * 5 states in the history; a search with two solutions; a text of two blocks; slots with different contents.
      */
     static DifferenceFamilies worked() {
-        DifferenceFamilies x = group(8, 1);
+        DifferenceFamilies x = fresh();
+        work(x);
+        return x;
+    }
+
+    /** Brings an object without a text into the state of worked(), whatever has been done with it. */
+    static void work(DifferenceFamilies x) {
+        x.setGroup(8, 1);
         x.setHole(2, 0);
         x.put(5, 7);
         x.keep(1);
@@ -42,7 +49,6 @@ final class States {
         x.keep(0);
         Check.putAll(x, 2, 6, 5);
         Check.appendAll(x, "1,2;3;");
-        return x;
     }
 
     /** A group of two factors with the hole of 0, 1 and 2, three blocks, a history of 3 states, a text, and slot 0. */
