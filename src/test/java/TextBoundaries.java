@@ -144,6 +144,10 @@ final class TextBoundaries {
         fault(7, 1, "1,x;9;", 2);
         fault(7, 1, "1,9;x", 2);
         fault(7, 1, "1;2x,2", 3);
+        // A comma follows any element, also the last one that there is: the fault is at what stands behind it.
+        fault(2, 1, "0,1,", 4);
+        fault(2, 1, "0,1,;", 4);
+        fault(2, 1, "0,1,0;", 4);
         // The last character of a full text.
         String text = States.FULL_TEXT.substring(0, 159) + "x";
         fault(40, 1, text, 159);
